@@ -747,10 +747,11 @@ public final class AttribArbor {
 
         int append(Equation draft) {
             int number = count;
-            if (number >= rows.length) {
+            Equation row = number >= 0 && number < rows.length ? rows[number] : null;
+            if (row == null) {
                 return NONE;
             }
-            rows[number].take(draft);
+            row.take(draft);
             count++;
             return number;
         }
@@ -1217,7 +1218,7 @@ public final class AttribArbor {
             return slot >= 0 && slot < SLOTS ? hangs[slot] : 0;
         }
 
-        void record(int slot, int found, int bits) {
+        void keep(int slot, int found, int bits) {
             setEntry(values, slot, found);
             setEntry(hangs, slot, bits);
             made++;
@@ -1498,7 +1499,7 @@ public final class AttribArbor {
         private void close(Frame frame) {
             int slot = slotOf(frame.node, frame.attribute);
             int hangs = frame.answer == CYCLE ? frame.hangs | ALL_NODES : frame.hangs;
-            book.record(slot, frame.answer, hangs);
+            book.keep(slot, frame.answer, hangs);
             setOpen(slot, false);
             depth--;
         }
