@@ -1593,7 +1593,6 @@ public final class AttribArbor {
                 return book.valueOf(slot);
             }
             if (isOpen(slot)) {
-                frame.hangs |= ALL_NODES;
                 return CYCLE;
             }
             wanted = slot;

@@ -74,6 +74,19 @@ public final class AskTest {
         Due.is("value: the second letter, and KIND", t.x.value(2, TRIED), 3);
     }
 
+    private static void rootPutIn() {
+        Told t = new Told();
+        t.production(0, 5, 4, 5);
+        int put = t.x.attribute(Told.UP);
+        t.put(0).put(1).number(2).mul().add().up(0, put);
+        t.text("a");
+        Due.is("value: put in at the root", t.x.value(0, put), 1);
+        t.x.delete(0);
+        Due.is("value: both put in", t.x.value(0, put), 3);
+        t.x.insert(0, 'b');
+        Due.is("value: the second and the third one", t.x.value(0, put), 2 + 1);
+    }
+
     private static void joined() {
         is("999 + 2", 1, t -> t.number(999).number(2).add());
         is("999 * 999", 1, t -> t.number(999).number(999).mul());
@@ -330,6 +343,79 @@ public final class AskTest {
         Due.is("forward: no more", x.value(0, up), NONE);
     }
 
+    private static void highNumbers() {
+        Told t = new Told();
+        AttribArbor x = t.x;
+        for (int i = 0; i < 8; i++) {
+            t.production(3, 4);
+        }
+        t.production(0, 1, 1, 1);
+        t.production(1, 5);
+        for (int i = 0; i < 5; i++) {
+            x.attribute(Told.UP);
+        }
+        int down = x.attribute(Told.DOWN);
+        t.number(6).down(8, down, 0);
+        t.kind().down(8, down, 2);
+        t.child(4, 2).child(4, 0).number(10).mul().add().up(8, 0);
+        t.own(down).up(9, 4);
+        t.text("bb");
+        Due.is("value: the last attribute, child 2", x.value(3, down), 8);
+        Due.is("value: the last attribute, child 0", x.value(1, down), 6);
+        Due.is("value: the last production", x.value(0, 0), 68);
+        Told f = new Told();
+        for (int i = 0; i < 8; i++) {
+            f.production(1, 5);
+        }
+        f.production(0, 1, 1, 1);
+        f.production(0, 4, 4, 4);
+        Due.noPlace("forward: no children", () -> f.x.forward(9, 8, 0, 0, 0));
+        Told g = new Told();
+        for (int i = 0; i < 8; i++) {
+            g.production(1, 5);
+        }
+        g.production(0, 1, 1, 1);
+        g.production(0, 1, 1, 1);
+        int up = g.x.attribute(Told.UP);
+        g.at(2).up(9, up);
+        g.x.forward(8, 9, 1, 0, 1);
+        g.text("bbb");
+        Due.is("forward: the child 2 of the last production", g.x.value(0, up), REFERENCE + 2);
+    }
+
+    /** All attributes of 30 nodes, one behind the other, one below the other: up and down, three times. */
+    private static void deep() {
+        Told t = new Told();
+        AttribArbor x = t.x;
+        t.production(0, 1);
+        t.production(1, 2);
+        t.production(2, 3);
+        t.production(3, 4, 1);
+        t.production(3, 6, 3);
+        t.production(1);
+        for (int a = 0; a < 6; a++) {
+            x.attribute(a % 2 == 0 ? Told.UP : Told.DOWN);
+        }
+        for (int a = 0; a < 6; a += 2) {
+            for (int p = 0; p < 5; p++) {
+                t.child(a, 0).up(p, a);
+            }
+            t.own(a + 1).up(5, a);
+        }
+        t.own(2).down(0, 1, 0);
+        t.own(4).down(0, 3, 0);
+        t.number(77).down(0, 5, 0);
+        Due.is("deep: 30 nodes", t.text("caaaaaaaaa") / 100, 30);
+        Due.is("deep: anew", x.valueAnew(0, 0), 77);
+        Due.is("deep", x.value(0, 0), 77);
+        Due.is("deep: all of them", x.found(), 177);
+        t.own(0);
+        x.equation(0, 5, 0, 1);
+        x.toggle(1);
+        Due.is("deep: kept again", x.value(29, 4), 77);
+        Due.is("deep: from the middle", x.found(), 207);
+    }
+
     private static void atMostThree() {
         Told t = new Told();
         AttribArbor x = t.x;
@@ -381,7 +467,10 @@ public final class AskTest {
             r.number(5).up(1, 0);
             return r;
         });
+        t.own(0).up(0, 1);
         Due.is("RING: it never stands still", t.x.value(1, 0), CYCLE);
+        Due.is("RING: looked at, found anew", t.x.valueAnew(0, 1), CYCLE);
+        reads("RING: looked at in the end", t.x, 0, 1, 0);
         Due.is("RING: then all are CYCLE", t.x.value(2, 0), CYCLE);
         t = ringed(r -> {
             r.self().up(0, 0);
@@ -395,7 +484,14 @@ public final class AskTest {
             r.number(7).up(1, 0);
             return r;
         });
+        Due.is("RING: from below, anew", t.x.valueAnew(0, 0), 9);
         Due.is("RING: from below", t.x.value(0, 0), 9);
+        t.x.delete(0);
+        Due.is("RING: the text is another one", t.x.value(0, 0), 8);
+        t.x.toggle(0);
+        Due.is("RING: nothing counts", t.x.value(0, 0), NONE);
+        t.x.toggle(0);
+        Due.is("RING: found anew again", t.x.valueAnew(1, 0), 7);
         t = ringed(r -> {
             r.own(1).up(0, 0);
             r.own(0).number(1).or().up(0, 1);
@@ -701,6 +797,7 @@ public final class AskTest {
 
     public static void main(String[] args) {
         leaves();
+        rootPutIn();
         joined();
         chosen();
         down();
@@ -710,6 +807,8 @@ public final class AskTest {
         forwards();
         fewerChildren();
         atMostThree();
+        highNumbers();
+        deep();
         rings();
         thirtyRounds();
         roundsAtOnce();

@@ -44,7 +44,8 @@ public final class GrammarTest {
         Due.is("production: 0", x.production(0, 0, 9, 3), 0);
         Due.is("production: 1", x.production(3, 9, -1, -1), 1);
         Due.is("production: 2", x.production(1, 4, 0, -1), 2);
-        for (int i = 3; i < 10; i++) {
+        Due.is("production: 3", x.production(0, 0, 0, 0), 3);
+        for (int i = 4; i < 10; i++) {
             Due.is("production: " + i, x.production(0, -1, -1, -1), i);
         }
         Due.notNow("production: 10 are there", () -> x.production(0, -1, -1, -1));
@@ -64,14 +65,23 @@ public final class GrammarTest {
 
     // ---- promise 3
     private static void forward() {
-        AttribArbor x = fourProductions().x;
+        Told t = fourProductions();
+        AttribArbor x = t.x;
+        t.production(0, 1);
+        t.production(2, 1, 1, 2);
+        t.production(2, 1, 1, 2);
         Due.noPlace("forward: production -1", () -> x.forward(-1, 1, 0, 0, 0));
-        Due.noPlace("forward: production 5", () -> x.forward(5, 1, 0, 0, 0));
-        Due.noPlace("forward: other 5", () -> x.forward(0, 5, 0, 0, 0));
+        Due.noPlace("forward: production 8", () -> x.forward(8, 1, 0, 0, 0));
+        Due.noPlace("forward: other 8", () -> x.forward(0, 8, 0, 0, 0));
         Due.noPlace("forward: other -2", () -> x.forward(0, -2, 0, 0, 0));
         Due.noPlace("forward: child 2", () -> x.forward(0, 1, 2, 0, 0));
         Due.noPlace("forward: child -1", () -> x.forward(0, 1, 1, -1, 0));
         Due.noPlace("forward: no child at all", () -> x.forward(2, 1, 0, 0, 0));
+        Due.noPlace("forward: child 2 for the only one", () -> x.forward(1, 5, 2, 0, 0));
+        Due.badArgument("forward: no second one", () -> x.forward(1, 5, 1, 5, 0));
+        Due.badArgument("forward: no third one", () -> x.forward(0, 1, 1, 0, 5));
+        Due.badArgument("forward: the third of another nonterminal", () -> x.forward(6, 7, 0, 0, 0));
+        Due.is("forward: the third", x.forward(6, 7, 0, 1, 2), -1);
         Due.noPlace("forward: child 3 of itself", () -> x.forward(3, 3, 0, 0, 3));
         Due.badArgument("forward: to itself", () -> x.forward(0, 0, 0, 1, 0));
         Due.badArgument("forward: another nonterminal", () -> x.forward(0, 3, 0, 0, 0));
@@ -116,6 +126,13 @@ public final class GrammarTest {
         Due.is("rule: the letter may stand elsewhere", x.rule(0, 0, letterFirst), 4);
         Due.is("rule: it stood elsewhere", x.rule(0, 0, 4), letterFirst);
         Due.is("rule: the other one has none", x.rule(4, 0, 0), -1);
+        Told one = new Told();
+        one.x.attribute(Told.UP);
+        one.production(3, 1);
+        one.production(3, 2);
+        one.production(3, 1);
+        Due.badArgument("rule: the only child", () -> one.x.rule(0, 0, 1));
+        Due.is("rule: a child alike", one.x.rule(0, 0, 2), -1);
     }
 
     // ---- promise 5

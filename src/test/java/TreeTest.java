@@ -65,6 +65,23 @@ public final class TreeTest {
         Due.is("cost: nothing to repair", x.cost(), 0);
     }
 
+    private static void oneProduction() {
+        AttribArbor x = new AttribArbor();
+        x.production(0, 4, -1, -1);
+        Due.is("one production: read", x.read(), 100);
+        Due.is("one production: insert", x.insert(0, 'a'), 100);
+        Due.is("one production: insert, left out", x.insert(0, 'a'), 101);
+        Due.is("one production: delete", x.delete(1), 101);
+        Due.is("one production: delete, put in", x.delete(0), 100);
+    }
+
+    /** Where a nonterminal is told by the next one, and the productions stand so that each turn tells one. */
+    private static void chainsOfProductions() {
+        isRead("", 4, 1, 1, p(0, 1), p(1, 2), p(2, 3), p(3, 4));
+        isRead("aa", 8, 0, 3, p(0, 1, 1, 1), p(1, 2), p(2, 3), p(3, 4), p(1));
+        isRead("abab", 11, 0, 3, p(0, 1, 1, 2), p(1, 2, 2), p(2, 3), p(3), p(2, 4, 5));
+    }
+
     /** A text read by a new object with these productions: the answer of read(), the cost, and node(0). */
     private static AttribArbor isRead(String text, int nodes, int cost, int root, int[]... productions) {
         Told t = new Told();
@@ -313,6 +330,8 @@ public final class TreeTest {
         texts();
         twelveLetters();
         noProduction();
+        oneProduction();
+        chainsOfProductions();
         costs();
         choices();
         shortestFirst();
