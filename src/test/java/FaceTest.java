@@ -45,12 +45,16 @@ public final class FaceTest {
         return told.toString();
     }
 
-    private static void face() {
-        Set<String> want = new TreeSet<>(Arrays.asList(FACE));
+    private static Set<String> faceNames() {
         Set<String> names = new TreeSet<>();
         for (String line : FACE) {
             names.add(line.replaceAll("^\\w+ (\\w+)\\(.*", "$1"));
         }
+        return names;
+    }
+
+    private static void face(Set<String> names) {
+        Set<String> want = new TreeSet<>(Arrays.asList(FACE));
         for (Method method : AttribArbor.class.getDeclaredMethods()) {
             if (method.isSynthetic()) {
                 continue;
@@ -65,8 +69,11 @@ public final class FaceTest {
         Due.is("calls that are missing " + want, want.size(), 0);
     }
 
-    private static void insides() {
+    private static void insides(Set<String> names) {
         for (Class<?> inside : AttribArbor.class.getDeclaredClasses()) {
+            for (Method method : inside.getDeclaredMethods()) {
+                Due.is(method + " bears a public name", names.contains(method.getName()), false);
+            }
             int how = inside.getModifiers();
             Due.is(inside + " is static", Modifier.isStatic(how), true);
             Due.is(inside + " is public", Modifier.isPublic(how) || Modifier.isProtected(how), false);
@@ -81,8 +88,10 @@ public final class FaceTest {
         int how = AttribArbor.class.getModifiers();
         Due.is("public", Modifier.isPublic(how), true);
         Due.is("final", Modifier.isFinal(how), true);
-        face();
-        insides();
+        Set<String> names = faceNames();
+        Due.is("calls of the face", names.size(), 21);
+        face(names);
+        insides(names);
         Constructor<?>[] constructors = AttribArbor.class.getDeclaredConstructors();
         Due.is("constructors", constructors.length, 1);
         Due.is("the constructor's parameters", constructors[0].getParameterCount(), 0);
