@@ -431,6 +431,45 @@ public final class EdgeAskTest {
         readsAre("GATHERED to the last one, a conflict to another", t.x, 2, 0, 3, 11, 12);
     }
 
+    // Equations of the first and the last production, for the first and the last attribute, at all targets:
+    // each is told apart from the others.
+    private static void allTargets() {
+        for (int shift = 0; shift < 8; shift++) {
+            Told t = new Told();
+            int at = shift < 4 ? 0 : 9;
+            for (int p = 0; p < 10; p++) {
+                if (p == at) {
+                    t.production(0, 1, 1, 1);
+                } else {
+                    t.production(1, 4);
+                }
+            }
+            for (int a = 0; a < 6; a++) {
+                int kind = (a + shift) % 4;
+                t.x.attribute(kind);
+                for (int child = 0; child < 3 && kind == Told.DOWN; child++) {
+                    t.number(10 * a + child).down(at, a, child);
+                }
+                if (kind == Told.GATHERED) {
+                    t.self().number(10 * a + 4).gift(at, a);
+                } else if (kind != Told.DOWN) {
+                    t.number(10 * a + 5).up(at, a);
+                }
+            }
+            t.text("aaa");
+            for (int a = 0; a < 6; a++) {
+                int kind = (a + shift) % 4;
+                String what = "equations of " + at + ", attribute " + a + " of kind " + kind + ": ";
+                int due = kind == Told.DOWN ? NONE : kind == Told.GATHERED ? 10 * a + 4 : 10 * a + 5;
+                Due.is(what + "the root", t.x.value(0, a), due);
+                for (int child = 0; child < 3; child++) {
+                    int below = kind == Told.DOWN ? 10 * a + child : kind == Told.GATHERED ? 0 : NONE;
+                    Due.is(what + "child " + child, t.x.value(child + 1, a), below);
+                }
+            }
+        }
+    }
+
     // "If the 30th round changes one, all of them are CYCLE."
     private static void thirtyRounds() {
         for (int last = 27; last < 33; last++) {
@@ -842,6 +881,7 @@ public final class EdgeAskTest {
         behindAForward();
         gathered();
         gatheredReads();
+        allTargets();
         thirtyRounds();
         firstRounds();
         overARing();
