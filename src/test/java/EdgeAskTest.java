@@ -531,6 +531,54 @@ public final class EdgeAskTest {
         Due.is("RING: two equations", t.x.value(0, 0), CONFLICT);
     }
 
+    // "At first each is 0", also when they are found again behind a change
+    private static void firstRoundsAgain() {
+        Told t = new Told();
+        t.production(0, 4, 1);
+        t.production(1, 5);
+        AttribArbor x = t.x;
+        int ring = x.attribute(Told.RING);
+        int least = x.attribute(Told.UP);
+        t.own(ring).own(least).max().up(0, ring);
+        t.number(9);
+        x.equation(0, least, -1, 1);
+        t.number(3);
+        x.equation(0, least, -1, 2);
+        x.toggle(2);
+        t.text("ab");
+        Due.is("RING: at first", x.value(0, ring), 9);
+        x.toggle(1);
+        x.toggle(2);
+        Due.is("RING: at first again", x.value(0, ring), 3);
+        Due.is("RING: at first again, anew", x.valueAnew(0, ring), 3);
+        x.toggle(1);
+        Due.is("RING: a conflict", x.value(0, ring), CONFLICT);
+        x.toggle(2);
+        Due.is("RING: at first once more", x.value(0, ring), 9);
+    }
+
+    // "of each those of its production ... (forwards do not matter)": its own children and letters, whatever was
+    // asked ahead of that
+    private static void gatheredWithForwards() {
+        Told t = new Told();
+        t.production(0, 4, 1, 1);
+        t.production(0, 1, 1);
+        t.production(1, 5);
+        AttribArbor x = t.x;
+        int up = x.attribute(Told.UP);
+        int gathered = x.attribute(Told.GATHERED);
+        x.forward(0, 1, 1, 0, 0);
+        t.at(0).up(1, up);
+        t.self().letter(0).gift(0, gathered);
+        t.at(0).put(0).number(5).add().gift(0, gathered);
+        t.self().number(100).gift(1, gathered);
+        t.text("abb");
+        Due.is("GATHERED: ahead of a forward", x.value(0, up), REFERENCE + 2);
+        Due.is("GATHERED: its own letter", x.value(0, gathered), 1);
+        Due.is("GATHERED: its own child", x.value(1, gathered), 5);
+        Due.is("GATHERED: not that behind the forward", x.value(2, gathered), 0);
+    }
+
     // "without a RING one on the way": over a RING one it is no cycle; what the rounds look at is not kept
     private static void overARing() {
         Told t = new Told();
@@ -884,6 +932,8 @@ public final class EdgeAskTest {
         allTargets();
         thirtyRounds();
         firstRounds();
+        firstRoundsAgain();
+        gatheredWithForwards();
         overARing();
         droppedByNodes();
         droppedByAnyNode();

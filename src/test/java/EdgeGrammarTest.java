@@ -630,6 +630,32 @@ public final class EdgeGrammarTest {
         Due.is("ringIn: a child's DOWN on the node's", t.x.ringIn(), -1);
     }
 
+    // "directly or by others": also over the first of all attributes, and by the first of all productions
+    private static void ringOverTheFirst() {
+        for (int first = 0; first < 3; first++) {
+            Told t = new Told();
+            int leaf = t.production(1, 4);
+            int root = t.production(0, 1);
+            // Which of the three is the attribute 0: the DOWN one, the UP one between, or the UP one that is read.
+            int[] kinds = {first == 0 ? Told.DOWN : Told.UP, first == 1 ? Told.DOWN : Told.UP, first == 2 ? Told.DOWN : Told.UP};
+            for (int kind : kinds) {
+                t.x.attribute(kind);
+            }
+            int down = first;
+            int between = first == 1 ? 0 : 1;
+            int read = 3 - down - between;
+            t.own(between).up(leaf, read);
+            t.own(down).up(leaf, between);
+            Due.is("ringIn: over the first, open, " + first, t.x.ringIn(), -1);
+            t.child(read, 0).down(root, down, 0);
+            Due.is("ringIn: over the first, closed, " + first, t.x.ringIn(), root);
+            t.number(1);
+            t.x.equation(leaf, between, -1, 1);
+            t.x.toggle(0);
+            Due.is("ringIn: over the first, open again, " + first, t.x.ringIn(), -1);
+        }
+    }
+
     public static void main(String[] args) {
         aNewOne();
         nonterminals();
@@ -654,6 +680,7 @@ public final class EdgeGrammarTest {
         ringAtTheEnds();
         ringOverManyLevels();
         ringTellsWhatIsThere();
+        ringOverTheFirst();
         Due.end("EdgeGrammarTest");
     }
 }
