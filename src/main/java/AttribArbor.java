@@ -1356,7 +1356,7 @@ public final class AttribArbor {
                 case MUL:
                     return one * other % 1000;
                 case MAX:
-                    return Math.max(one, other);
+                    return one > other ? one : other;
                 default:
                     return (one | other) % 1000;
             }
