@@ -364,6 +364,85 @@ public final class EdgeAskTest {
         Due.is("DOWN: the other child, told", x.value(1, 5), 6);
     }
 
+    // "the child that stands for the child 0 of the other one", "likewise for its child 1", "for its child 2": from
+    // each production, each child for each
+    private static void standingChildren() {
+        for (int source = 0; source < 10; source++) {
+            Told t = new Told();
+            int other = source == 9 ? 0 : 9;
+            for (int p = 0; p < 10; p++) {
+                if (p == source || p == other && source < 9) {
+                    t.production(0, 1, 1, 1);
+                } else if (p == other) {
+                    t.production(0, 1, 9, 1);
+                } else {
+                    t.production(1, 4);
+                }
+            }
+            standIns(t, source, other);
+        }
+    }
+
+    private static void standIns(Told t, int source, int other) {
+        AttribArbor x = t.x;
+        int children = source == 9 ? 2 : 3;
+        for (int a = 0; a < 3; a++) {
+            x.attribute(Told.UP);
+            t.at(a).up(other, a);
+        }
+        int down = x.attribute(Told.DOWN);
+        for (int child = 0; child < children; child++) {
+            t.number(child + 1).down(other, down, child);
+        }
+        t.text("aaa");
+        Due.is("standing: the root is of " + source, x.node(0), 10 * source + 3);
+        for (int way = 0; way < (children == 3 ? 27 : 9); way++) {
+            int[] stands = {way % 3, way / 3 % 3, way / 9};
+            x.forward(source, other, stands[0], stands[1], stands[2]);
+            for (int a = 0; a < 3; a++) {
+                String what = "standing: from " + source + ", way " + way + ", child " + a;
+                Due.is(what, x.value(0, a), a < children ? REFERENCE + 1 + stands[a] : NONE);
+                int due = stands[0] == a ? 1 : stands[1] == a ? 2 : children == 3 && stands[2] == a ? 3 : NONE;
+                Due.is(what + ", DOWN", x.value(a + 1, down), due);
+            }
+        }
+    }
+
+    // "all contributions that count, for the attribute, of all nodes of the tree": from the last of 30, to it
+    private static void gatheredFromTheLast() {
+        Told t = new Told();
+        t.production(0, 1, 1, 1);
+        t.production(1, 2, 2, 2);
+        t.production(2, 3, 3);
+        t.production(3);
+        t.production(2, 4, 3);
+        AttribArbor x = t.x;
+        int gathered = x.attribute(Told.GATHERED);
+        int root = x.attribute(Told.DOWN);
+        int last = x.attribute(Told.UP);
+        t.self().down(0, root, 0);
+        t.self().down(0, root, 1);
+        t.self().down(0, root, 2);
+        t.text("a");
+        Due.is("GATHERED: 30 nodes", x.node(29), 29030);
+        t.own(root).number(7).gift(4, gathered);
+        Due.is("GATHERED: from the node 28 alone", x.value(0, gathered), 7);
+        t.at(0).number(40).gift(4, gathered);
+        Due.is("GATHERED: to the node 29", x.value(29, gathered), 40);
+        t.own(root).number(9).gift(3, gathered);
+        Due.is("GATHERED: from 17 nodes, the node 29 too", x.value(0, gathered), 160);
+        x.toggle(0);
+        int like3 = t.production(3);
+        t.number(1);
+        x.equation(3, last, -1, 1);
+        x.rule(3, last, like3);
+        Due.is("GATHERED: the node 29 is rewritten", x.rewrite(29), like3);
+        t.self().kind();
+        x.equation(like3, gathered, -2, 1);
+        Due.is("GATHERED: from the node 29 alone", x.value(29, gathered), like3);
+        Due.is("GATHERED: to no other one", x.value(28, gathered), 0);
+    }
+
     // "the second one is added, by 1000 (CYCLE or CONFLICT are the attribute then, and no more is looked at; NONE
     // and references add nothing); all others are left out"
     private static void gathered() {
@@ -929,6 +1008,8 @@ public final class EdgeAskTest {
         behindAForward();
         gathered();
         gatheredReads();
+        gatheredFromTheLast();
+        standingChildren();
         allTargets();
         thirtyRounds();
         firstRounds();
