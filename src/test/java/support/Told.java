@@ -4,6 +4,19 @@ final class Told {
 
     final AttribArbor x = new AttribArbor();
 
+    /** Each row is a nonterminal and its symbols. */
+    static Told grammar(int[]... productions) {
+        Told t = new Told();
+        for (int[] p : productions) {
+            t.x.production(p[0], p.length > 1 ? p[1] : -1, p.length > 2 ? p[2] : -1, p.length > 3 ? p[3] : -1);
+        }
+        return t;
+    }
+
+    static int[] p(int... row) {
+        return row;
+    }
+
     int production(int nonterminal, int... symbols) {
         return x.production(nonterminal, symbols.length > 0 ? symbols[0] : -1,
                 symbols.length > 1 ? symbols[1] : -1, symbols.length > 2 ? symbols[2] : -1);
@@ -85,6 +98,10 @@ final class Told {
 
     int gift(int production, int attribute) {
         return x.equation(production, attribute, -2, 0);
+    }
+
+    int ask(int node, int attribute) {
+        return x.value(node, attribute);
     }
 
     /** Puts letters at the end of the text; answers what the last insert() answered. */
