@@ -93,12 +93,13 @@ public final class AllTreesTest {
         int[] key = {p, ends[1] - ends[0], symbols.length > 2 ? ends[2] - ends[1] : 0};
         List<Made> all = new ArrayList<>();
         all.add(new Made(0, List.of(key)));
-        for (int s = 1; s < symbols.length; s++) {
+        for (int s = 1; s < symbols.length && made < MOST_TREES; s++) {
             boolean same = ends[s - 1] == from && ends[s] == to;
             List<Made> next = new ArrayList<>();
             for (Made part : symbols[s] < 4 ? trees(symbols[s], ends[s - 1], ends[s], same ? open : 0)
                     : List.of(new Made(letterCost(symbols[s], ends[s - 1], ends[s]), List.of()))) {
-                for (Made ahead : all) {
+                for (int i = 0; i < all.size() && made < MOST_TREES; i++) {
+                    Made ahead = all.get(i);
                     List<int[]> keys = new ArrayList<>(ahead.keys);
                     keys.addAll(part.keys);
                     next.add(new Made(ahead.cost + part.cost, keys));
