@@ -467,6 +467,17 @@ public final class DocAttributesTest {
             Due.is("all of them, as far as " + last, u.ask(1, 1), last == 29 ? 7 : CYCLE);
             Due.is("also where there is no equation, " + last, u.ask(0, 1), last == 29 ? NONE : CYCLE);
         }
+        t = withAttributes(Told.grammar(p(0, A, 0), p(0, B, 0), p(0)), RING, UP);
+        t.own(1).child(0, 0).add().up(0, 0);
+        t.number(50).up(1, 0);
+        t.number(0).up(2, 0);
+        t.number(1).up(0, 1);
+        t.x.rule(0, 1, 1);
+        t.text("aa");
+        Due.is("together, by two nodes", t.ask(0, 0), 2);
+        Due.is("behind a rewriting", t.x.rewrite(1) + t.ask(0, 0), 1 + 51);
+        Due.is("behind a change of the text", t.x.insert(0, 'b') / 100 + t.ask(0, 0), 4 + 50);
+        Due.is("and back", t.x.delete(0) / 100 + t.ask(0, 0), 3 + 2);
         // Two that change places are what the other one was behind the round ahead: they never come to rest.
         t = withAttributes(Told.grammar(p(0)), RING, RING);
         t.own(1).number(0).same().up(0, 0);

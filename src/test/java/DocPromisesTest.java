@@ -684,6 +684,14 @@ public final class DocPromisesTest {
             Due.noPlace("anew of node 2", () -> x.valueAnew(2, attribute));
         }
         Due.is("five more by value()", x.found(), 15);
+        x.delete(0);
+        t.letter(0).put(0).add().up(1, 0);
+        Due.is("anew behind a change, and a RING one first", x.valueAnew(0, 5), 6);
+        x.production(0, B, 1, -1);
+        t.put(0).up(2, 5);
+        x.insert(0, 'b');
+        Due.is("anew behind another change, and a RING one first", x.valueAnew(0, 5), 0);
+        Due.is("anew: nothing of the old tree", x.valueAnew(0, 0), NONE);
         DOC.says("Throws IndexOutOfBoundsException if there is no such node or attribute");
         Due.noPlace("anew of attribute -1", () -> x.valueAnew(0, -1));
         Due.noPlace("anew of attribute 6", () -> x.valueAnew(0, 6));

@@ -363,7 +363,9 @@ public final class DocTermsTest {
 
         DOC.says("It keeps that as long as the node is kept.");
         t.x.insert(1, 'f');
-        Due.is("kept: rewritten still", t.ask(0, letter), 1);
+        Due.is("kept: rewritten still", t.x.valueAnew(0, letter), 1);
+        t.x.toggle(3);
+        Due.is("kept: rewritten still, when it is asked again", t.ask(0, letter), 1);
         t.x.delete(0);
         Due.is("its letter is put in: new", t.ask(0, letter), NONE);
     }
