@@ -1,7 +1,3 @@
-import java.io.IOException;
-import java.nio.file.Files;
-import java.nio.file.Path;
-
 /**
  * The document from 'Attributes and equations' to 'What is kept': each sentence quoted, and tried. What
  * stands there and is not quoted here fails the test.
@@ -20,19 +16,12 @@ public final class DocAttributesTest {
         return Told.p(row);
     }
 
-    private static Told withAttributes(Told t, int... kinds) {
-        for (int kind : kinds) {
-            t.x.attribute(kind);
-        }
-        return t;
-    }
-
     // Attributes of the root of "ab": the one that is tried, a conflict, a cycle, nothing, a reference.
     private static final int TRIED = 0, ODD = 1, ROUND = 2, EMPTY = 3, CHILD = 4;
 
     /** 0 -> "a" 1, 1 -> "b". */
     private static Told twoNodes() {
-        Told t = withAttributes(Told.grammar(p(0, A, 1), p(1, B)), UP, UP, UP, UP, UP);
+        Told t = Told.grammar(p(0, A, 1), p(1, B)).attributes(UP, UP, UP, UP, UP);
         t.number(1).up(0, ODD);
         t.number(2).up(0, ODD);
         t.own(ROUND).up(0, ROUND);
@@ -61,7 +50,7 @@ public final class DocAttributesTest {
         Due.notNow("attribute 6", () -> x.attribute(UP));
 
         DOC.says("An attribute is of a kind: 0 UP, 1 DOWN, 2 GATHERED, 3 RING (it goes up, and may hang on itself).");
-        Told t = withAttributes(Told.grammar(p(0, A, 1), p(1)), 0, 1, 2, 3);
+        Told t = Told.grammar(p(0, A, 1), p(1)).attributes(0, 1, 2, 3);
         t.child(0, 0).number(1).add().up(0, 0);
         t.number(1).up(1, 0);
         t.number(7).down(0, 1, 0);
@@ -86,7 +75,7 @@ public final class DocAttributesTest {
 
     private static void equations() {
         DOC.says("An equation is of a production, an attribute and a target, in an aspect, 0 to 3, with an expression.");
-        Told t = withAttributes(Told.grammar(p(0, A), p(0, B)), UP, UP);
+        Told t = Told.grammar(p(0, A), p(0, B)).attributes(UP, UP);
         for (int aspect = 0; aspect < 4; aspect++) {
             t.number(aspect);
             Due.is("in aspect " + aspect, t.x.equation(aspect % 2, aspect / 2, -1, aspect), aspect);
@@ -103,7 +92,7 @@ public final class DocAttributesTest {
                 + "contribution, which has two expressions).");
         for (int kind = 0; kind < 4; kind++) {
             for (int target = -2; target < 1; target++) {
-                AttribArbor x = withAttributes(Told.grammar(p(0, 0)), kind).x;
+                AttribArbor x = Told.grammar(p(0, 0)).attributes(kind).x;
                 boolean goes = target == (kind == GATHERED ? -2 : kind == DOWN ? 0 : -1);
                 x.step(0, 1, 0);
                 if (kind == GATHERED) {
@@ -119,7 +108,7 @@ public final class DocAttributesTest {
         }
 
         DOC.says("Equations are numbered from 0, at most 30; those of an aspect count only while it is on, as at first.");
-        Told u = withAttributes(Told.grammar(p(0)), UP);
+        Told u = Told.grammar(p(0)).attributes(UP);
         u.number(8);
         u.x.equation(0, 0, -1, 2);
         for (int i = 1; i < 30; i++) {
@@ -158,7 +147,7 @@ public final class DocAttributesTest {
 
         DOC.says("3 LETTER a: 1 to 6 for its letter a, \"a\" to \"f\".");
         for (int letter = 0; letter < 6; letter++) {
-            Told u = withAttributes(Told.grammar(p(0, A + letter, B, A + 5 - letter)), UP, UP, UP);
+            Told u = Told.grammar(p(0, A + letter, B, A + 5 - letter)).attributes(UP, UP, UP);
             for (int i = 0; i < 3; i++) {
                 u.letter(i).up(0, i);
             }
@@ -169,7 +158,7 @@ public final class DocAttributesTest {
         }
 
         DOC.says("4 PUT a: 1 if that letter was put in, otherwise 0.");
-        Told u = withAttributes(Told.grammar(p(0, A, B, C)), UP, UP, UP);
+        Told u = Told.grammar(p(0, A, B, C)).attributes(UP, UP, UP);
         for (int i = 0; i < 3; i++) {
             u.put(i).up(0, i);
         }
@@ -206,7 +195,7 @@ public final class DocAttributesTest {
         is("CHOOSE by 0", 22, twoNodes().number(0).number(11).number(22).choose());
 
         DOC.says("14 KIND: the production of the node, as it is now.");
-        t = withAttributes(Told.grammar(p(1), p(0, A), p(0, B)), UP);
+        t = Told.grammar(p(1), p(0, A), p(0, B)).attributes(UP);
         t.kind().up(1, 0);
         t.kind().up(2, 0);
         t.x.rule(1, 0, 2);
@@ -267,7 +256,7 @@ public final class DocAttributesTest {
         DOC.section("What an attribute of a node is");
         DOC.says("The equation of a production for an attribute and a target: that which counts; if there are two, it "
                 + "is CONFLICT;");
-        Told t = withAttributes(Told.grammar(p(0, A, 1), p(1)), UP, DOWN);
+        Told t = Told.grammar(p(0, A, 1), p(1)).attributes(UP, DOWN);
         t.number(3).up(0, 0);
         t.number(4).down(0, 1, 0);
         t.text("a");
@@ -284,7 +273,7 @@ public final class DocAttributesTest {
                 + "the node stands, over all forwards on the way), looked at at the node, where the children are those "
                 + "that stand for them, letters are NONE, and KIND is that of the node still;");
         // The production 0 shows its children turned round, the production 1 turns them once more.
-        t = withAttributes(Told.grammar(p(0, 1, A, 1), p(0, 1, 1, B), p(0, 1, 1, 1), p(1, B), p(1, C)), UP, UP, DOWN);
+        t = Told.grammar(p(0, 1, A, 1), p(0, 1, 1, B), p(0, 1, 1, 1), p(1, B), p(1, C)).attributes(UP, UP, DOWN);
         int value = 0;
         int tried = 1;
         int down = 2;
@@ -313,7 +302,7 @@ public final class DocAttributesTest {
         Due.is("its own goes first", t.ask(0, tried), 9);
 
         DOC.says("and so on, behind at most 3 forwards.");
-        t = withAttributes(Told.grammar(p(0, A), p(0, B), p(0, C), p(0, D), p(0)), UP, UP);
+        t = Told.grammar(p(0, A), p(0, B), p(0, C), p(0, D), p(0)).attributes(UP, UP);
         for (int i = 0; i < 4; i++) {
             t.x.forward(i, i + 1, 0, 0, 0);
         }
@@ -327,7 +316,7 @@ public final class DocAttributesTest {
 
     private static void upAndDown() {
         DOC.says("UP and RING: what that equation for the node itself is; NONE without one.");
-        Told t = withAttributes(Told.grammar(p(0, A, 1), p(1)), UP, RING, DOWN, DOWN);
+        Told t = Told.grammar(p(0, A, 1), p(1)).attributes(UP, RING, DOWN, DOWN);
         t.number(3).up(0, 0);
         t.number(4).up(0, 1);
         t.text("a");
@@ -338,7 +327,7 @@ public final class DocAttributesTest {
 
         DOC.says("DOWN: what that equation of the parent's production for this child is, looked at at the parent; without "
                 + "one, what the attribute is of the parent (so it comes over remote places); NONE at the root.");
-        t = withAttributes(Told.grammar(p(0, A, 1), p(1, B, 1), p(1)), DOWN, DOWN);
+        t = Told.grammar(p(0, A, 1), p(1, B, 1), p(1)).attributes(DOWN, DOWN);
         t.self().down(0, 0, 0);
         t.letter(0).down(1, 1, 0);
         t.text("abb");
@@ -353,7 +342,7 @@ public final class DocAttributesTest {
     private static void gathered() {
         DOC.says("GATHERED: all contributions that count, for the attribute, of all nodes of the tree are gone through, "
                 + "by rising nodes, of each those of its production by rising numbers (forwards do not matter).");
-        Told t = withAttributes(Told.grammar(p(0, A, 1, 1), p(1, B), p(1, C)), GATHERED, UP, DOWN);
+        Told t = Told.grammar(p(0, A, 1, 1), p(1, B), p(1, C)).attributes(GATHERED, UP, DOWN);
         int sum = 0;
         int up = 1;
         int root = 2;
@@ -382,7 +371,7 @@ public final class DocAttributesTest {
 
         DOC.says("If the first expression is CYCLE or CONFLICT, the attribute is that, and no more is looked at;");
         for (int odd : new int[] {CYCLE, CONFLICT}) {
-            t = withAttributes(Told.grammar(p(0, A)), GATHERED, UP, UP);
+            t = Told.grammar(p(0, A)).attributes(GATHERED, UP, UP);
             oddAt(t, 1, odd);
             t.self().number(5).gift(0, 0);
             t.own(1).own(2).gift(0, 0);
@@ -396,7 +385,7 @@ public final class DocAttributesTest {
 
         DOC.says("if it refers to the node that is asked, the second one is added, by 1000 (CYCLE or CONFLICT are the "
                 + "attribute then, and no more is looked at; NONE and references add nothing); all others are left out.");
-        t = withAttributes(Told.grammar(p(0, A, 1), p(1)), GATHERED, UP);
+        t = Told.grammar(p(0, A, 1), p(1)).attributes(GATHERED, UP);
         t.self().number(700).gift(0, 0);
         t.self().number(800).gift(0, 0);
         t.self().own(1).gift(0, 0);
@@ -408,7 +397,7 @@ public final class DocAttributesTest {
         Due.is("added by 1000", t.ask(0, 0), 500);
         Due.is("that for the child", t.ask(1, 0), 9);
         for (int odd : new int[] {CYCLE, CONFLICT}) {
-            Told u = withAttributes(Told.grammar(p(0, A)), GATHERED, UP, UP);
+            Told u = Told.grammar(p(0, A)).attributes(GATHERED, UP, UP);
             oddAt(u, 1, odd);
             u.self().own(1).gift(0, 0);
             u.self().own(2).gift(0, 0);
@@ -430,7 +419,7 @@ public final class DocAttributesTest {
     private static void rings() {
         DOC.says("An attribute that is not RING, and for which itself has to be looked at, without a RING one on the way, "
                 + "is CYCLE, and so is what is found by that.");
-        Told t = withAttributes(Told.grammar(p(0)), UP, UP, UP, RING, UP);
+        Told t = Told.grammar(p(0)).attributes(UP, UP, UP, RING, UP);
         t.own(1).number(1).add().up(0, 0);
         t.own(0).up(0, 1);
         t.number(1).own(1).own(2).choose().up(0, 2);
@@ -441,7 +430,7 @@ public final class DocAttributesTest {
         Due.is("the other one", t.ask(0, 1), CYCLE);
         Due.is("found by that", t.ask(0, 2), CYCLE);
         Due.is("with a RING one on the way", t.ask(0, 4), 2);
-        t = withAttributes(Told.grammar(p(0)), UP);
+        t = Told.grammar(p(0)).attributes(UP);
         t.number(0).own(0).number(5).choose().up(0, 0);
         t.x.read();
         Due.is("it need not be looked at", t.ask(0, 0), 5);
@@ -449,7 +438,7 @@ public final class DocAttributesTest {
         DOC.says("RING attributes of all nodes are found together. At first each is 0; then they are found anew by rounds, "
                 + "all from what they were behind the round ahead (a reference counts as NONE), until a round changes "
                 + "none; that is what they are. If the 30th round changes one, all of them are CYCLE.");
-        t = withAttributes(Told.grammar(p(0, A, 1), p(1, B)), RING, RING, UP, RING);
+        t = Told.grammar(p(0, A, 1), p(1, B)).attributes(RING, RING, UP, RING);
         t.child(0, 0).up(0, 0);
         t.own(0).number(1).or().up(1, 0);
         t.self().up(0, 1);
@@ -459,7 +448,7 @@ public final class DocAttributesTest {
         Due.is("a reference is NONE", t.ask(0, 1), NONE);
         Due.is("as far as 28 in 28 rounds, the 29th changes none", t.ask(0, 3), 28);
         for (int last = 29; last < 31; last++) {
-            Told u = withAttributes(Told.grammar(p(0, 1), p(1)), RING, RING);
+            Told u = Told.grammar(p(0, 1), p(1)).attributes(RING, RING);
             u.own(0).number(last).same().number(last).own(0).number(1).add().choose().up(0, 0);
             u.number(7).up(1, 1);
             u.x.read();
@@ -467,7 +456,7 @@ public final class DocAttributesTest {
             Due.is("all of them, as far as " + last, u.ask(1, 1), last == 29 ? 7 : CYCLE);
             Due.is("also where there is no equation, " + last, u.ask(0, 1), last == 29 ? NONE : CYCLE);
         }
-        t = withAttributes(Told.grammar(p(0, A, 0), p(0, B, 0), p(0)), RING, UP);
+        t = Told.grammar(p(0, A, 0), p(0, B, 0), p(0)).attributes(RING, UP);
         t.own(1).child(0, 0).add().up(0, 0);
         t.number(50).up(1, 0);
         t.number(0).up(2, 0);
@@ -479,7 +468,7 @@ public final class DocAttributesTest {
         Due.is("behind a change of the text", t.x.insert(0, 'b') / 100 + t.ask(0, 0), 4 + 50);
         Due.is("and back", t.x.delete(0) / 100 + t.ask(0, 0), 3 + 2);
         // Two that change places are what the other one was behind the round ahead: they never come to rest.
-        t = withAttributes(Told.grammar(p(0)), RING, RING);
+        t = Told.grammar(p(0)).attributes(RING, RING);
         t.own(1).number(0).same().up(0, 0);
         t.own(0).up(0, 1);
         t.x.read();
@@ -490,7 +479,7 @@ public final class DocAttributesTest {
         DOC.section("What is kept");
         DOC.says("What was found for an attribute (not RING) of a node, when it was asked, or something that looked at it "
                 + "was, is kept, with the nodes on which it hangs:");
-        Told t = withAttributes(Told.grammar(p(0, A, 1), p(1)), UP, UP, RING);
+        Told t = Told.grammar(p(0, A, 1), p(1)).attributes(UP, UP, RING);
         t.child(1, 0).up(0, 0);
         t.text("a");
         t.ask(0, 0);
@@ -517,7 +506,7 @@ public final class DocAttributesTest {
         droppedByTelling();
 
         DOC.says("What is looked at within rounds is neither kept nor counted, and what is kept is not looked at there.");
-        t = withAttributes(Told.grammar(p(0)), UP, RING);
+        t = Told.grammar(p(0)).attributes(UP, RING);
         t.own(1).number(4).or().up(0, 0);
         t.own(0).up(0, 1);
         t.x.read();
@@ -529,7 +518,7 @@ public final class DocAttributesTest {
 
         DOC.says("A finding that is kept is counted, each one that is made on the way as well, CYCLE ones too; so is one "
                 + "that has to be made again.");
-        t = withAttributes(Told.grammar(p(0)), UP, UP, UP);
+        t = Told.grammar(p(0)).attributes(UP, UP, UP);
         t.own(1).up(0, 0);
         t.own(2).up(0, 1);
         t.own(1).up(0, 2);
@@ -550,8 +539,8 @@ public final class DocAttributesTest {
      * node 3, and one of the root that looked at the node 1.
      */
     private static void keptBehind(String what, int change, boolean[] due) {
-        Told t = withAttributes(Told.grammar(p(0, A, 1, 3), p(1, B, 2), p(3, C), p(2), p(1, D, 2), p(3, 9), p(0, B, 1, 3)),
-                UP, DOWN, GATHERED, RING, UP, UP);
+        Told t = Told.grammar(p(0, A, 1, 3), p(1, B, 2), p(3, C), p(2), p(1, D, 2), p(3, 9), p(0, B, 1, 3))
+                .attributes(UP, DOWN, GATHERED, RING, UP, UP);
         int plain = 0;
         int down = 1;
         int gathered = 2;
@@ -589,7 +578,7 @@ public final class DocAttributesTest {
 
     private static void droppedByTelling() {
         for (int i = 0; i < 6; i++) {
-            Told t = withAttributes(Told.grammar(p(0, A), p(0, B)), UP);
+            Told t = Told.grammar(p(0, A), p(0, B)).attributes(UP);
             t.x.forward(0, 1, 0, 0, 0);
             t.x.rule(0, 0, 1);
             t.text("a");
@@ -644,7 +633,7 @@ public final class DocAttributesTest {
         Due.is("REFERENCE", REFERENCE, 1000);
 
         DOC.says("a reference to the node n, by the numbers of now, is told as REFERENCE + n.");
-        Told t = withAttributes(Told.grammar(p(0, 1, 2), p(1, A, 1), p(1), p(2, B)), UP);
+        Told t = Told.grammar(p(0, 1, 2), p(1, A, 1), p(1), p(2, B)).attributes(UP);
         t.self().up(3, 0);
         t.text("b");
         Due.is("the node is 2", t.ask(2, 0), REFERENCE + 2);
@@ -664,7 +653,7 @@ public final class DocAttributesTest {
         DOC.says("Ahead of the calls insert, delete, read, cost, node, rewrite the interface says: ---- the text and the "
                 + "tree.");
         DOC.says("Ahead of the calls value, valueAnew, found, isKept, why the interface says: ---- asking.");
-        String source = source();
+        String source = Document.source();
         int at = 0;
         for (String[] part : parts) {
             int next = source.indexOf("// ---- " + (part[0].equals("asking") ? "" : "the ") + part[0] + "\n", at);
@@ -675,14 +664,6 @@ public final class DocAttributesTest {
                 Due.is(part[i] + " stands behind that", call > at, true);
                 at = call;
             }
-        }
-    }
-
-    private static String source() {
-        try {
-            return Files.readString(Path.of("src", "main", "java", "AttribArbor.java"));
-        } catch (IOException e) {
-            throw new IllegalStateException("the class can't be read", e);
         }
     }
 

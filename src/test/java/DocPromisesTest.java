@@ -19,13 +19,6 @@ public final class DocPromisesTest {
         return Told.p(row);
     }
 
-    private static Told withAttributes(Told t, int... kinds) {
-        for (int kind : kinds) {
-            t.x.attribute(kind);
-        }
-        return t;
-    }
-
     /** Quotes how a call is written, and looks whether the class has just that. */
     private static void call(String written) {
         DOC.says(written);
@@ -126,7 +119,7 @@ public final class DocPromisesTest {
         DOC.section("Promise 3: forward");
         call("int forward(int production, int other, int first, int second, int third) throws IndexOutOfBoundsException, "
                 + "IllegalArgumentException");
-        Told t = withAttributes(Told.grammar(p(0, 1, 1, 2), p(0, 1, 2, 1), p(0, A), p(3, A), p(1), p(2)), UP);
+        Told t = Told.grammar(p(0, 1, 1, 2), p(0, 1, 2, 1), p(0, A), p(3, A), p(1), p(2)).attributes(UP);
         AttribArbor x = t.x;
         t.at(0).up(1, 0);
         t.number(3).up(2, 0);
@@ -149,7 +142,7 @@ public final class DocPromisesTest {
         DOC.says("second: likewise for its child 1");
         DOC.says("third: likewise for its child 2");
         for (int child = 0; child < 3; child++) {
-            Told u = withAttributes(Told.grammar(p(0, 1, 1, 1), p(0, 1, 1, 1), p(1)), UP, UP, UP);
+            Told u = Told.grammar(p(0, 1, 1, 1), p(0, 1, 1, 1), p(1)).attributes(UP, UP, UP);
             for (int i = 0; i < 3; i++) {
                 u.at(i).up(1, i);
             }
@@ -195,8 +188,8 @@ public final class DocPromisesTest {
         DOC.section("Promise 4: rule");
         call("int rule(int production, int attribute, int other) throws IndexOutOfBoundsException, "
                 + "IllegalArgumentException");
-        Told t = withAttributes(Told.grammar(p(0, A, 1), p(0, B, 1), p(0, 1, C), p(0, A, 2), p(0, 1), p(0, 1, A, A),
-                p(1, A, 1), p(1), p(2)), UP, UP);
+        Told t = Told.grammar(p(0, A, 1), p(0, B, 1), p(0, 1, C), p(0, A, 2), p(0, 1), p(0, 1, A, A),
+                p(1, A, 1), p(1), p(2)).attributes(UP, UP);
         AttribArbor x = t.x;
         t.number(1).up(0, 1);
 
@@ -228,7 +221,7 @@ public final class DocPromisesTest {
                 + "there are, or the nonterminals of the children differ");
         Due.badArgument("the same", () -> x.rule(0, 0, 0));
         Due.badArgument("nonterminals differ", () -> x.rule(0, 0, 6));
-        AttribArbor y = withAttributes(Told.grammar(p(0, A), p(0, A, 0)), UP).x;
+        AttribArbor y = Told.grammar(p(0, A), p(0, A, 0)).attributes(UP).x;
         Due.badArgument("how many children differ", () -> y.rule(0, 0, 1));
         Due.badArgument("how many children differ, one less", () -> y.rule(1, 0, 0));
         Due.badArgument("how many letters differ", () -> x.rule(0, 0, 4));
@@ -311,7 +304,7 @@ public final class DocPromisesTest {
         call("int dropSteps()");
         DOC.says("Empties the draft.");
         DOC.says("Returns how many steps it had.");
-        Told t = withAttributes(Told.grammar(p(0, A, 1), p(1)), UP, DOWN, GATHERED, RING);
+        Told t = Told.grammar(p(0, A, 1), p(1)).attributes(UP, DOWN, GATHERED, RING);
         AttribArbor x = t.x;
         Due.is("none", x.dropSteps(), 0);
         t.number(1).number(2).add();
@@ -391,7 +384,7 @@ public final class DocPromisesTest {
         DOC.says("Switches an aspect on or off.");
         DOC.says("aspect: 0 to 3");
         DOC.says("Returns true if it is on then.");
-        Told t = withAttributes(Told.grammar(p(0)), UP);
+        Told t = Told.grammar(p(0)).attributes(UP);
         AttribArbor x = t.x;
         t.number(1);
         x.equation(0, 0, -1, 3);
@@ -410,7 +403,7 @@ public final class DocPromisesTest {
         call("int conflicts()");
         DOC.says("Returns how many equations that count are in conflict: there is another one that counts for the same "
                 + "production, attribute and target. (Contributions are not.) Returns the number.");
-        t = withAttributes(Told.grammar(p(0, 1, 1), p(0, 1, 1), p(1)), UP, DOWN, GATHERED, UP);
+        t = Told.grammar(p(0, 1, 1), p(0, 1, 1), p(1)).attributes(UP, DOWN, GATHERED, UP);
         t.number(1).up(0, 0);
         t.number(1).up(1, 0);
         t.number(1).up(0, 3);
@@ -435,7 +428,7 @@ public final class DocPromisesTest {
         DOC.section("Promise 11: ringIn");
         call("int ringIn()");
         DOC.says("Looks for a production in which attributes might hang on themselves, by what equations that count tell.");
-        Told t = withAttributes(Told.grammar(p(0, A, 1), p(0, B), p(1)), UP, UP, RING);
+        Told t = Told.grammar(p(0, A, 1), p(0, B), p(1)).attributes(UP, UP, RING);
         t.own(1).up(1, 0);
         Due.is("none", t.x.ringIn(), -1);
         t.own(0);
@@ -451,7 +444,7 @@ public final class DocPromisesTest {
 
         DOC.says("For each equation of it (forwards included; if there are two, both) for UP and DOWN, its attribute at its "
                 + "target hangs on those that its expressions tell by OWN and CHILD, looked at or not.");
-        t = withAttributes(Told.grammar(p(0, 1, 1), p(0, 1, 1), p(1)), UP, DOWN);
+        t = Told.grammar(p(0, 1, 1), p(0, 1, 1), p(1)).attributes(UP, DOWN);
         t.number(0).child(1, 0).number(1).choose().down(1, 1, 0);
         Due.is("looked at or not", t.x.ringIn(), 1);
         t.x.forward(0, 1, 1, 0, 0);
@@ -460,7 +453,7 @@ public final class DocPromisesTest {
         Due.is("not if there is one ahead of it", t.x.ringIn(), 1);
         t.child(1, 1).down(0, 1, 1);
         Due.is("if there are two, both", t.x.ringIn(), 0);
-        t = withAttributes(Told.grammar(p(0, 1), p(1)), UP, UP);
+        t = Told.grammar(p(0, 1), p(1)).attributes(UP, UP);
         t.self().of(0).up(0, 0);
         t.at(0).of(1).up(0, 1);
         Due.is("by OWN and CHILD alone, not by OF", t.x.ringIn(), -1);
@@ -469,7 +462,7 @@ public final class DocPromisesTest {
         DOC.says("An UP attribute of a child hangs on a DOWN attribute of it, if in the graph of some production of its "
                 + "nonterminal the one of the node hangs on the other, directly or by others (the least such relations "
                 + "for which all that holds).");
-        t = withAttributes(Told.grammar(p(0, 1), p(1, A, 2), p(1), p(2)), UP, DOWN, UP);
+        t = Told.grammar(p(0, 1), p(1, A, 2), p(1), p(2)).attributes(UP, DOWN, UP);
         t.child(0, 0).down(0, 1, 0);
         Due.is("the child's UP one hangs on nothing", t.x.ringIn(), -1);
         t.child(0, 0).up(1, 0);
@@ -483,7 +476,7 @@ public final class DocPromisesTest {
         Due.is("by some production of it", t.x.ringIn(), 0);
 
         DOC.says("Returns the lowest production in whose graph something hangs on itself, -1 if there is none.");
-        t = withAttributes(Told.grammar(p(0), p(0), p(0)), UP);
+        t = Told.grammar(p(0), p(0), p(0)).attributes(UP);
         Due.is("none", t.x.ringIn(), -1);
         for (int production = 2; production >= 0; production--) {
             t.own(0).up(production, 0);
@@ -585,7 +578,7 @@ public final class DocPromisesTest {
         DOC.says("node: a node");
         DOC.says("Returns 1000 * its parent and 1, added (0 for the root) + 10 * its production as it was read + how many "
                 + "children it has.");
-        Told t = withAttributes(Told.grammar(p(1, A), p(1, B), p(0, 1, 2, 1), p(2, 1, 1)), UP);
+        Told t = Told.grammar(p(1, A), p(1, B), p(0, 1, 2, 1), p(2, 1, 1)).attributes(UP);
         t.number(1).up(1, 0);
         t.x.rule(1, 0, 0);
         t.text("abba");
@@ -609,7 +602,7 @@ public final class DocPromisesTest {
                 + "a number above 0.");
         DOC.says("node: a node");
         DOC.says("Returns its production then.");
-        Told t = withAttributes(Told.grammar(p(0, A, 0), p(0, B, 0), p(0, C, 0), p(0)), UP, RING, DOWN);
+        Told t = Told.grammar(p(0, A, 0), p(0, B, 0), p(0, C, 0), p(0)).attributes(UP, RING, DOWN);
         AttribArbor x = t.x;
         t.number(0).up(0, 0);
         t.kind().up(1, 0);
@@ -643,7 +636,7 @@ public final class DocPromisesTest {
         DOC.says("node: a node");
         DOC.says("attribute: an attribute");
         DOC.says("Returns the number, REFERENCE + a node, NONE, CYCLE or CONFLICT.");
-        Told t = withAttributes(Told.grammar(p(0, A, 1), p(1)), UP, UP, DOWN, UP, UP, RING);
+        Told t = Told.grammar(p(0, A, 1), p(1)).attributes(UP, UP, DOWN, UP, UP, RING);
         AttribArbor x = t.x;
         t.number(999).up(0, 0);
         t.at(0).up(0, 1);
@@ -701,7 +694,7 @@ public final class DocPromisesTest {
         DOC.section("Promise 20: found");
         call("int found()");
         DOC.says("Returns how many findings that were kept have been made in all.");
-        Told t = withAttributes(Told.grammar(p(0, A, 0), p(0)), UP, DOWN);
+        Told t = Told.grammar(p(0, A, 0), p(0)).attributes(UP, DOWN);
         AttribArbor x = t.x;
         t.child(0, 0).up(0, 0);
         t.number(1).up(1, 0);
@@ -761,7 +754,7 @@ public final class DocPromisesTest {
         DOC.says("attribute: an attribute");
         DOC.says("read: 0 for the first one");
         DOC.says("Returns 10 * the node + the attribute.");
-        Told t = withAttributes(Told.grammar(p(0, A, 1, 1), p(1, B, 1), p(1, C), p(0, 1, 1)), UP, DOWN, GATHERED, RING, UP, RING);
+        Told t = Told.grammar(p(0, A, 1, 1), p(1, B, 1), p(1, C), p(0, 1, 1)).attributes(UP, DOWN, GATHERED, RING, UP, RING);
         AttribArbor x = t.x;
         t.child(4, 1).child(0, 0).add().child(4, 1).add().up(0, 0);
         t.number(1).up(1, 0);

@@ -1,7 +1,3 @@
-import java.io.IOException;
-import java.nio.file.Files;
-import java.nio.file.Path;
-
 /**
  * The document from its first line to the promises: each sentence quoted, and tried. What stands in it and
  * is not quoted here fails the test.
@@ -60,21 +56,13 @@ public final class DocTermsTest {
         return text.replaceAll("\\s+", " ").trim();
     }
 
-    private static String source() {
-        try {
-            return plain(Files.readString(Path.of("src", "main", "java", "AttribArbor.java")));
-        } catch (IOException e) {
-            throw new IllegalStateException("the class can't be read", e);
-        }
-    }
-
     // The face stands in the class as it stands in the document, line by line; FaceTest looks for more members.
     private static void publicFace() {
         DOC.section("The public face");
-        String source = source();
+        String source = plain(Document.source());
         int at = -1;
         for (String line : DOC.code().split("\n")) {
-            String member = plain(line).replaceAll("\\(\\);$|;$", "");
+            String member = plain(line).replaceAll(";$", "");
             if (member.isEmpty() || member.equals("}")) {
                 continue;
             }

@@ -173,6 +173,9 @@ public final class EdgeAskTest {
             is(kind + ": a reference first", NONE, t -> joined(t.self().number(0), k));
             is(kind + ": a reference second", NONE, t -> joined(t.number(0).self(), k));
             is(kind + ": two references", NONE, t -> joined(t.self().at(0), k));
+            is(kind + ": a reference to another node first", NONE, t -> joined(t.at(0).number(1), k));
+            is(kind + ": a reference to another node second", NONE, t -> joined(t.number(1).at(0), k));
+            is(kind + ": two references to another node", NONE, t -> joined(t.at(0).own(REF), k), REF);
         }
         is("references to one node", 1, t -> t.at(0).own(REF).same(), REF);
         is("references to two nodes", 0, t -> t.self().own(REF).same(), REF);
@@ -191,6 +194,8 @@ public final class EdgeAskTest {
         is("OF in place of a value", NONE, t -> t.own(EMPTY).of(ODD), EMPTY);
         is("OF a cycle", CYCLE, t -> t.own(ROUND).of(ODD), ROUND);
         is("OF a conflict", CONFLICT, t -> t.own(ODD).of(REF), ODD);
+        is("OF a cycle, over all eight steps", CYCLE,
+                t -> t.own(ROUND).of(ODD).of(ODD).of(ODD).of(ODD).of(ODD).of(ODD).of(ODD), ROUND);
     }
 
     // "CHOOSE looks at what it chooses alone, and if the first one is in place of a value, at none";
@@ -608,6 +613,15 @@ public final class EdgeAskTest {
         t.number(2).up(0, 0);
         t.x.read();
         Due.is("RING: two equations", t.x.value(0, 0), CONFLICT);
+        t = new Told();
+        t.production(0, 1);
+        t.production(1);
+        t.x.attribute(Told.RING);
+        t.at(0).up(0, 0);
+        t.self().up(1, 0);
+        t.x.read();
+        Due.is("RING: a reference to a child", t.x.value(0, 0), NONE);
+        Due.is("RING: a reference of the child", t.x.value(1, 0), NONE);
     }
 
     // "At first each is 0", also when they are found again behind a change

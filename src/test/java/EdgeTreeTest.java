@@ -6,27 +6,19 @@ public final class EdgeTreeTest {
     private static final int LOW = Integer.MIN_VALUE;
     private static final int HIGH = Integer.MAX_VALUE;
 
-    private static Told told(int[]... productions) {
-        Told t = new Told();
-        for (int[] p : productions) {
-            t.x.production(p[0], p.length > 1 ? p[1] : -1, p.length > 2 ? p[2] : -1, p.length > 3 ? p[3] : -1);
-        }
-        return t;
-    }
-
     private static int[] p(int... row) {
-        return row;
+        return Told.p(row);
     }
 
     private static void costIs(int due, String text, int[]... productions) {
-        Told t = told(productions);
+        Told t = Told.grammar(productions);
         t.text(text);
         Due.is("cost of '" + text + "'", t.x.cost(), due);
     }
 
     /** The tree for a text: what node() tells of each, and that there are no more. */
     private static AttribArbor treeIs(String text, int[] due, int[]... productions) {
-        Told t = told(productions);
+        Told t = Told.grammar(productions);
         t.text(text);
         nodesAre("tree for '" + text + "'", t.x, due);
         return t.x;
@@ -54,7 +46,7 @@ public final class EdgeTreeTest {
 
     // "place: 0 to the length of the text"; "place: 0 for the first letter"; an empty text and a full one
     private static void places() {
-        AttribArbor x = told(p(0)).x;
+        AttribArbor x = Told.grammar(p(0)).x;
         for (int length = 0; length < 12; length++) {
             int beyond = length + 1;
             for (int bad : new int[] {LOW, -1, beyond, HIGH}) {
@@ -89,7 +81,7 @@ public final class EdgeTreeTest {
 
     // Where a letter is put, and which one is taken out, at both ends and between.
     private static void orderOfLetters() {
-        Told t = told(p(0, 1, 1, 1), p(1, 2, 2, 2), p(2, 4), p(2, 5), p(2, 6), p(2, 7), p(2, 8), p(2, 9));
+        Told t = Told.grammar(p(0, 1, 1, 1), p(1, 2, 2, 2), p(2, 4), p(2, 5), p(2, 6), p(2, 7), p(2, 8), p(2, 9));
         int letter = t.x.attribute(Told.UP);
         int two = t.x.attribute(Told.UP);
         for (int q = 2; q < 8; q++) {
@@ -129,7 +121,7 @@ public final class EdgeTreeTest {
 
     // "letter: 97 to 102"
     private static void letters() {
-        AttribArbor x = told(p(0)).x;
+        AttribArbor x = Told.grammar(p(0)).x;
         for (int bad : new int[] {LOW, -1, 0, 4, 9, 65, 96, 103, 122, HIGH}) {
             Due.badArgument("letter " + bad, () -> x.insert(0, bad));
         }
@@ -170,7 +162,7 @@ public final class EdgeTreeTest {
 
     // "There is none until a text is read for the first time."; "-1 if there is no tree"
     private static void costAtFirst() {
-        AttribArbor x = told(p(0), p(1, 4)).x;
+        AttribArbor x = Told.grammar(p(0), p(1, 4)).x;
         Due.is("cost ahead of the first text", x.cost(), -1);
         x.insert(0, 'a');
         Due.is("cost of the first text", x.cost(), 1);
@@ -178,7 +170,7 @@ public final class EdgeTreeTest {
         Due.is("cost is that of the tree still", x.cost(), 1);
         x.read();
         Due.is("cost of the tree that is read then", x.cost(), 0);
-        AttribArbor y = told(p(0)).x;
+        AttribArbor y = Told.grammar(p(0)).x;
         y.read();
         Due.is("cost of nothing", y.cost(), 0);
     }
@@ -275,7 +267,7 @@ public final class EdgeTreeTest {
 
     /** Which letters of the root are put in; the first production is that. */
     private static void putIs(String text, int[] due, int[]... productions) {
-        Told t = told(productions);
+        Told t = Told.grammar(productions);
         t.text(text);
         for (int i = 0; i < due.length; i++) {
             int attribute = t.x.attribute(Told.UP);
@@ -296,7 +288,7 @@ public final class EdgeTreeTest {
 
     // "or it has more than 30 nodes, there is none": 31 of them for no letter, one less for each "a"
     private static void thirtyNodes() {
-        Told t = told(THIRTY_ONE);
+        Told t = Told.grammar(THIRTY_ONE);
         AttribArbor x = t.x;
         int up = x.attribute(Told.UP);
         t.self().up(3, up);
@@ -342,7 +334,7 @@ public final class EdgeTreeTest {
                 p(0, 1, 1, 1), p(1, 2, 3), p(1, 2), p(2, 4), p(3, 5));
         treeIs("aaaaaaaaaaaa", new int[] {1, 1001, 2001, 3001, 4001, 5001, 6001, 7001, 8001, 9001, 10001, 11001, 12010},
                 p(0, 4, 0), p(0));
-        Told t = told(p(1, 4), p(1), p(1), p(1), p(1), p(1), p(1), p(1), p(1), p(0, 1, 1, 1));
+        Told t = Told.grammar(p(1, 4), p(1), p(1), p(1), p(1), p(1), p(1), p(1), p(1), p(0, 1, 1, 1));
         t.text("aaa");
         nodesAre("the last production", t.x, 93, 1000, 1000, 1000);
     }
@@ -351,7 +343,7 @@ public final class EdgeTreeTest {
     // there and put in, the node is kept; otherwise it and all below it are new"
     private static void keptByLetters() {
         for (int letter = 0; letter < 3; letter++) {
-            Told t = told(p(0, 4, 5, 6));
+            Told t = Told.grammar(p(0, 4, 5, 6));
             t.text("abc");
             Due.is("kept: the same again", t.x.read(), 101);
             Due.is("kept: letter " + letter + " is put in", t.x.delete(letter), 100);
@@ -362,11 +354,11 @@ public final class EdgeTreeTest {
                 Due.is("kept: and no more at " + place, t.x.delete(place), 101);
             }
         }
-        Told t = told(p(0, 4, 5));
+        Told t = Told.grammar(p(0, 4, 5));
         t.text("a");
         Due.is("kept: another letter is put in", t.x.insert(0, 'b'), 100);
         Due.is("kept: another letter is put in, cost", t.x.cost(), 2);
-        t = told(p(0, 4, 1, 5), p(1, 6));
+        t = Told.grammar(p(0, 4, 1, 5), p(1, 6));
         t.text("acb");
         Due.is("kept: a letter ahead of the child", t.x.delete(0), 200);
         Due.is("kept: a letter behind the child", t.x.delete(1), 200);
@@ -374,16 +366,16 @@ public final class EdgeTreeTest {
     }
 
     private static void keptByPlace() {
-        Told t = told(p(0, 4, 1), p(0, 5, 1), p(1, 6));
+        Told t = Told.grammar(p(0, 4, 1), p(0, 5, 1), p(1, 6));
         t.text("ac");
         Due.is("kept: \"b\" is left out", t.x.insert(0, 'b'), 202);
         Due.is("kept: none below a new one", t.x.delete(1), 200);
-        t = told(p(0, 1, 1), p(1, 4), p(1, 5));
+        t = Told.grammar(p(0, 1, 1), p(1, 4), p(1, 5));
         t.text("ab");
         Due.is("kept: the second child", t.x.delete(0), 302);
         Due.is("kept: the root alone", t.x.insert(1, 'a'), 301);
         Due.is("kept: neither moves to the other place", t.x.delete(1), 301);
-        t = told(p(0, 1, 1, 1), p(1, 4, 2), p(1, 5, 2), p(2, 6), p(2, 7));
+        t = Told.grammar(p(0, 1, 1, 1), p(1, 4, 2), p(1, 5, 2), p(2, 6), p(2, 7));
         t.text("acacac");
         Due.is("kept: the lower one of two that are there", t.x.insert(6, 'd'), 707);
         Due.is("kept: all but a child's child", t.x.delete(5), 706);
@@ -393,20 +385,20 @@ public final class EdgeTreeTest {
 
     // "it and all below it are new", also when the tree was none, or is another one by its productions
     private static void keptNever() {
-        Told t = told(p(0, 1), p(1, 4));
+        Told t = Told.grammar(p(0, 1), p(1, 4));
         t.text("a");
         t.x.production(0, 4, -1, -1);
         Due.is("kept: none, the root is of another production", t.x.read(), 100);
         t.x.production(1, 4, -1, -1);
         Due.is("kept: the same tree with other productions there", t.x.read(), 101);
-        Due.is("kept: the first tree has none", told(p(0)).x.read(), 100);
+        Due.is("kept: the first tree has none", Told.grammar(p(0)).x.read(), 100);
     }
 
     // "A node can be rewritten ...: if an attribute of it is a number above 0"
     private static void rewrittenAboveZero() {
         int[] numbers = {0, 1, 2, 998, 999};
         for (int number : numbers) {
-            Told t = told(p(0, 4), p(0, 5));
+            Told t = Told.grammar(p(0, 4), p(0, 5));
             t.x.attribute(Told.UP);
             t.number(number).up(0, 0);
             t.x.rule(0, 0, 1);
@@ -421,7 +413,7 @@ public final class EdgeTreeTest {
     // A reference is no number above 0, be it to the root or to another node; nor are NONE, CYCLE, CONFLICT.
     private static void rewrittenByNothingElse() {
         for (int i = 0; i < 5; i++) {
-            Told t = told(p(0, 4, 1), p(0, 5, 1), p(1));
+            Told t = Told.grammar(p(0, 4, 1), p(0, 5, 1), p(1));
             t.x.attribute(Told.UP);
             if (i == 0) {
                 t.self().up(0, 0);
@@ -443,7 +435,7 @@ public final class EdgeTreeTest {
 
     // "Rewrites a node, if there is a rule for its production"; "Returns its production then."
     private static void rewrittenByRules() {
-        Told t = told(p(0, 4, 0), p(0, 5, 0), p(0, 6, 0), p(0));
+        Told t = Told.grammar(p(0, 4, 0), p(0, 5, 0), p(0, 6, 0), p(0));
         AttribArbor x = t.x;
         for (int i = 0; i < 6; i++) {
             x.attribute(Told.UP);
@@ -482,7 +474,7 @@ public final class EdgeTreeTest {
 
     // "It keeps that as long as the node is kept."
     private static void rewrittenNoMore() {
-        Told t = told(p(0, 4), p(0, 5));
+        Told t = Told.grammar(p(0, 4), p(0, 5));
         AttribArbor x = t.x;
         int kind = x.attribute(Told.UP);
         t.number(5).up(0, kind);

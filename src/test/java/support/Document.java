@@ -15,6 +15,7 @@ import java.util.regex.Pattern;
  */
 final class Document {
     private static final Path PLACE = Path.of("..", "shared", "DOC.md");
+    private static final Path CLASS = Path.of("src", "main", "java", "AttribArbor.java");
     private static final Pattern WORD = Pattern.compile("[A-Za-z0-9_+*-]+");
 
     private static final class Section {
@@ -39,7 +40,7 @@ final class Document {
         }
         Section section = now;
         boolean inCode = false;
-        for (String line : linesOf(PLACE)) {
+        for (String line : textOf(PLACE).split("\n")) {
             if (line.startsWith("```")) {
                 inCode = !inCode;
             } else if (inCode) {
@@ -53,12 +54,17 @@ final class Document {
         }
     }
 
-    private static List<String> linesOf(Path place) {
+    private static String textOf(Path place) {
         try {
-            return Files.readAllLines(place, StandardCharsets.UTF_8);
+            return Files.readString(place, StandardCharsets.UTF_8);
         } catch (IOException e) {
             throw new IllegalStateException(place + " can't be read", e);
         }
+    }
+
+    /** The text of the class. */
+    static String source() {
+        return textOf(CLASS);
     }
 
     private static List<String> wordsOf(String text) {

@@ -17,6 +17,13 @@ final class Told {
         return row;
     }
 
+    Told attributes(int... kinds) {
+        for (int kind : kinds) {
+            x.attribute(kind);
+        }
+        return this;
+    }
+
     int production(int nonterminal, int... symbols) {
         return x.production(nonterminal, symbols.length > 0 ? symbols[0] : -1,
                 symbols.length > 1 ? symbols[1] : -1, symbols.length > 2 ? symbols[2] : -1);
